@@ -635,15 +635,11 @@ public final class StepBench {
     /** The shapes behind the steps of a word from one step on; false if one is too large. */
     private boolean shapeWord(Numbers word, int from) {
         for (int i = from; i < word.size(); i++) {
-            if (!shapeStep(i, (int) word.at(i))) {
+            if (!shapes.extend(i, rule, (int) word.at(i))) {
                 return false;
             }
         }
         return true;
-    }
-
-    private boolean shapeStep(int i, int r) {
-        return shapes.extend(i, rule.a(r), rule.b(r), rule.d(r));
     }
 
     /** The one number that takes the word of n rests and is itself behind it, or BEYOND. */
@@ -700,7 +696,7 @@ public final class StepBench {
                 return SPLIT_CLASS;
             }
             int r = rule.restOf(lowest);
-            boolean fits = shapeStep(i, r);
+            boolean fits = shapes.extend(i, rule, r);
             lowest = rule.after(lowest);
             stride = stride * rule.a(r) / rule.d(r);
             if (!fits || !isNumber(lowest) || !isNumber(stride)) {
@@ -1191,16 +1187,16 @@ public final class StepBench {
         }
 
         /**
-         * The shape behind i steps and one by (a x + b) / d; false if it is too large. It is brought
-         * to lowest terms only where it would be too large else: that is seldom, and dear.
+         * The shape behind i steps and one more by a REST; false if it is too large. It is brought to
+         * lowest terms only where it would be too large else: that is seldom, and dear.
          */
-        boolean extend(int i, long a, long b, long d) {
+        boolean extend(int i, Shares by, int r) {
             if (!has(i) || !has(i + 1)) {
                 return false;
             }
-            factors[i + 1] = a * factors[i];
-            addends[i + 1] = a * addends[i] + b * divisors[i];
-            divisors[i + 1] = d * divisors[i];
+            factors[i + 1] = by.a(r) * factors[i];
+            addends[i + 1] = by.a(r) * addends[i] + by.b(r) * divisors[i];
+            divisors[i + 1] = by.d(r) * divisors[i];
             if (fits(i + 1)) {
                 return true;
             }
@@ -1209,7 +1205,7 @@ public final class StepBench {
         }
 
         private boolean fits(int i) {
-            return isNumber(factor(i)) && isNumber(addend(i)) && isNumber(divisor(i));
+            return has(i) && isNumber(factors[i]) && isNumber(addends[i]) && isNumber(divisors[i]);
         }
 
         void reduce(int i) {

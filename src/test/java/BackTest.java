@@ -147,6 +147,7 @@ public final class BackTest {
         Due.is("27: two rests changed", 1, Bench.withRule(Bench.share(1, 1, 1), Bench.share(1, -1, 1)).both());
         Due.is("27: an a that is 0", 0,
             Bench.withRule(Bench.share(1, 0, 1), Bench.share(0, 1, 1)).both());
+        Due.is("27: the first a is 0", 0, Bench.withRule(Bench.share(0, 1, 1), Bench.share(2, -1, 1)).both());
         Due.is("27: some left, none twice", 0,
             Bench.withRule(Bench.share(2, 0, 1), Bench.share(2, 0, 1)).both());
         Due.is("27: classes by 2, 4 and 4", 1, Bench.withRule(
@@ -246,6 +247,7 @@ public final class BackTest {
         Due.is("29: -2, by its size", 1, Bench.alike(3, -2, 0, 1).drift());
         Due.is("29: 2 and 1 / 2", 0, Bench.withRule(Bench.share(1, 0, 2), Bench.share(2, 0, 1)).drift());
         Due.is("29: an a that is 0", -2, Bench.withRule(Bench.share(1, 0, 2), Bench.share(0, 0, 1)).drift());
+        Due.is("29: the first a is 0", -2, Bench.withRule(Bench.share(0, 0, 1), Bench.share(2, 0, 1)).drift());
         Due.is("29: the last a is 0", -2,
             Bench.withRule(Bench.share(1, 0, 1), Bench.share(1, 0, 1), Bench.share(0, 0, 1)).drift());
         Due.is("29: as large as can be", 1, Bench.alike(64, 1000, 0, 1).drift());
@@ -288,6 +290,16 @@ public final class BackTest {
         Due.row("30: ascending", y, 4, 5, 6);
         StepBench z = Bench.withRule(Bench.share(0, 7, 1), Bench.share(-1, 4, 1));
         Due.is("30: 7 and 2, both of another rest", 0, z.fixed());
+        z.back(-2);
+        Due.is("30: none again", 0, z.fixed());
+        Due.row("30: a row of its own", z);
+        StepBench w = Bench.withRule(Bench.share(3, 4, 1), Bench.share(-1, 2, 1), Bench.share(-1, 1, 1));
+        Due.is("30: -2 by another rest, 1", 1, w.fixed());
+        Due.row("30: 1", w, 1);
+        StepBench one = Bench.withRule(Bench.share(1, 0, 1), Bench.share(1, 0, 1), Bench.share(1, 0, 1),
+            Bench.share(-1, 6, 1), Bench.share(1, 0, 1));
+        Due.is("30: 3", 1, one.fixed());
+        Due.row("30: 3", one, 3);
         StepBench half = Bench.withRule(Bench.share(3, 1, 1), Bench.share(-1, 5, 1));
         Due.is("30: -1 / 2 and 5 / 2 are not whole", 0, half.fixed());
         StepBench large = Bench.withRule(Bench.share(0, -1000, 1), Bench.share(2, 999, 1));

@@ -149,6 +149,13 @@ public final class MachinesTest {
         Due.is("34: q of the last but one", 101, x.told(34, 1));
         Due.is("34: p of the last", 103, x.told(35, 0));
         Due.is("34: q of the last", 107, x.told(35, 1));
+        int[] primes = {
+            11, 13, 17, 19, 23, 29, 31, 37, 41, 43, 47, 53, 59, 61, 67, 71, 73, 79, 83, 89, 97, 101, 103, 107
+        };
+        for (int k = 0; k < 12; k++) {
+            Due.is("34: the go of act " + k, primes[2 * k], x.told(24 + k, 0));
+            Due.is("34: the wait of act " + k, primes[2 * k + 1], x.told(24 + k, 1));
+        }
         for (int i = 37; i <= 40; i++) {
             Due.is("34: room for fractions", i, x.fraction(1, 2));
         }

@@ -62,6 +62,13 @@ public final class RulesTest {
         x.seal();
         Due.is("2: a new draft is as new", 1, x.told(1, 0));
         Due.is("2: and of its own measure", 3, x.count(1));
+        x.draft(3);
+        Bench.lay(x, 1, 5, 5, 5);
+        Bench.lay(x, 2, 5, 5, 5);
+        x.draft(3);
+        x.seal();
+        Due.is("2: as new, b", 0, x.told(1, 1));
+        Due.is("2: as new, d", 1, x.told(1, 2));
     }
 
     private static void sheet() {
@@ -157,6 +164,7 @@ public final class RulesTest {
         Due.is("5: three on four rests", 3, x.lay(0));
         Due.is("5: there is no sheet then", -1, x.count(6));
         Due.is("5: nor to lay again", -1, x.lay(0));
+        Due.is("5: nor to write on", false, x.entry(0, 1));
         x.sheet(1, 6);
         x.entry(0, 10);
         x.entry(3, 13);

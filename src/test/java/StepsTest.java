@@ -111,6 +111,7 @@ public final class StepsTest {
         Due.is("13: no number", -1, x.until(MOST + 1, MOST + 1, 5));
         Due.is("13: no number to come to", -1, x.until(1, MOST + 1, 5));
         Due.is("13: nor from", -1, x.until(-MOST - 1, 1, 5));
+        Due.is("13: nor from, though it would come there", -1, x.until(MOST + 2, MOST / 2 + 1, 5));
         Due.is("13: the greatest", 1, x.until(MOST, MOST / 2, 5));
         StepBench one = Bench.alike(2, 1, 1, 1);
         Due.is("13: beyond ahead", -1, one.until(MOST - 2, 5, 3));
@@ -136,6 +137,7 @@ public final class StepsTest {
         Due.is("14: below 0", 1, x.height(-5, 5));
         Due.is("14: never below", -2, x.height(-2, 5));
         Due.is("14: no number", -1, x.height(MOST + 1, 5));
+        Due.is("14: no number, though it would fall", -1, x.height(MOST + 2, 5));
         Due.is("14: k -1", -1, x.height(6, -1));
         Due.is("14: k 100001", -1, x.height(6, 100001));
         Due.is("14: beyond", -1, x.height(MOST - 1, 5));

@@ -59,6 +59,10 @@ public final class WordsTest {
         x.fixed();
         Bench.tellWord(x, 1, 2);
         Due.is("19: a rest that is not below m", -1, x.shape());
+        Bench.tellWord(x, 2);
+        Due.is("19: nor the first", -1, x.shape());
+        Bench.tellWord(x, 63, 1);
+        Due.is("19: nor the first of two", -1, x.shape());
         Due.row("19: the row before stays", x, -1, 0);
         long[][] due = {{1, 0, 2}, {3, 1, 2}, {9, 5, 4}, {9, 5, 8}};
         int[][] words = {{0}, {1}, {1, 1}, {1, 1, 0}};
@@ -253,7 +257,7 @@ public final class WordsTest {
         Due.is("21: words that all take are none", 0, all.rings(2));
         Due.row("21: none", all);
         StepBench zero = Bench.withRule(Bench.share(0, 5, 1), Bench.share(0, 8, 1), Bench.share(0, 1, 1));
-        Due.is("21: 5 to 1 to 8 to 5", 0, zero.rings(1));
+        Due.is("21: none by itself", 0, zero.rings(1));
         Due.is("21: 1 to 8, 8 to 1", 1, zero.rings(2));
         Due.row("21: 1 to 8, 8 to 1", zero, 1);
     }
@@ -286,7 +290,7 @@ public final class WordsTest {
         long[][] shares = new long[64][];
         for (int r = 0; r < 64; r++) {
             long a = r < 32 ? 63 : 65;
-            long b = Math.floorMod(-a * r, 64L) + 64 * ((r * 7) % 13 - 6);
+            long b = Math.floorMod(-a * r, 64L) + 64 * ((r * 7) % 29 - 14);
             shares[r] = Bench.share(a, b, 64);
         }
         StepBench x = Bench.withRule(shares);
@@ -340,7 +344,16 @@ public final class WordsTest {
         Due.is("22: 1000 to the 4 by 2 to the 4", 0, a.falls(4));
         Due.is("22: the stride is above 10^15 behind five", -4, a.falls(5));
         StepBench s = Bench.alike(2, 1000, 0, 1);
-        Due.is("22: numbers and shape within, their distance not", -4, s.falls(5));
+        Due.is("22: all large", -4, s.falls(5));
+        Due.is("22: distance just 10^15", 0, Bench.alike(2, 500, 0, 1).falls(5));
+        Due.is("22: only the distance above", -4, Bench.alike(2, 501, 0, 1).falls(5));
+        Due.is("22: only the distance below", -4, Bench.alike(2, -501, 0, 1).falls(5));
+        Due.is("22: a number within", 0, Bench.alike(2, 500, 100, 1).falls(5));
+        Due.is("22: only a number above", -4, Bench.alike(2, 500, 1000, 1).falls(5));
+        Due.is("22: a shape within", 79,
+            Bench.withRule(Bench.share(1, 0, 2), Bench.share(17, 1, 2)).falls(12));
+        Due.is("22: only a shape's B above", -4,
+            Bench.withRule(Bench.share(1, 0, 2), Bench.share(17, 999, 2)).falls(12));
         StepBench b = Bench.withRule(Bench.share(1, 0, 1), Bench.share(0, 1, 1));
         Due.is("22: 0 and 1", 2048, b.falls(12));
         StepBench low = Bench.withRule(Bench.share(-1000, 0, 1), Bench.share(0, 0, 1));
