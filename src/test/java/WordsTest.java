@@ -290,7 +290,9 @@ public final class WordsTest {
         long[][] shares = new long[64][];
         for (int r = 0; r < 64; r++) {
             long a = r < 32 ? 63 : 65;
-            long b = Math.floorMod(-a * r, 64L) + 64 * ((r * 7) % 29 - 14);
+            // So falls what the later words begin with: the row has to let go of greater ones.
+            long times = r < 32 ? (r * 7) % 29 - 14 : (63 - r) * 14 / 31;
+            long b = Math.floorMod(-a * r, 64L) + 64 * times;
             shares[r] = Bench.share(a, b, 64);
         }
         StepBench x = Bench.withRule(shares);
