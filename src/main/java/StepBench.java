@@ -166,15 +166,7 @@ public final class StepBench {
 
     public long run(long x, int k)
             throws IllegalArgumentException, IllegalStateException, NoSuchElementException, ArithmeticException {
-        if (!isStepCount(k)) {
-            throw new IllegalArgumentException("k is not 0 to 100000");
-        }
-        if (ruleKind == NO_RULE) {
-            throw new IllegalStateException("no rule");
-        }
-        if (!isNumber(x)) {
-            throw new ArithmeticException("x is no number");
-        }
+        refuseWrongStart(x, k);
         long y = x;
         for (int i = 0; i < k && isNumber(y); i++) {
             y = after(y);
@@ -216,15 +208,7 @@ public final class StepBench {
     }
 
     public long peak(long x, int k) throws IllegalArgumentException, IllegalStateException, ArithmeticException {
-        if (!isStepCount(k)) {
-            throw new IllegalArgumentException("k is not 0 to 100000");
-        }
-        if (ruleKind == NO_RULE) {
-            throw new IllegalStateException("no rule");
-        }
-        if (!isNumber(x)) {
-            throw new ArithmeticException("x is no number");
-        }
+        refuseWrongStart(x, k);
         long greatest = x;
         long y = x;
         for (int i = 0; i < k; i++) {
@@ -593,6 +577,19 @@ public final class StepBench {
             all *= m;
         }
         return all;
+    }
+
+    /** What run() and peak() ask ahead of the first step, in this order. */
+    private void refuseWrongStart(long x, int k) {
+        if (!isStepCount(k)) {
+            throw new IllegalArgumentException("k is not 0 to 100000");
+        }
+        if (ruleKind == NO_RULE) {
+            throw new IllegalStateException("no rule");
+        }
+        if (!isNumber(x)) {
+            throw new ArithmeticException("x is no number");
+        }
     }
 
     /** What a NUMBER steps to by THE RULE that there is: a NUMBER, ENDED or BEYOND. */
