@@ -3,14 +3,19 @@ import java.util.List;
 
 /**
  * Runs of calls on a bench and on the model, always the same ones: each answer, and behind each call the
- * row and all counts, must be alike. With an argument it does that many runs for each kind.
+ * row and the counts, must be alike. With an argument it does that many runs for each kind. A bench is used
+ * for at most 512 calls, so of long rows and rules some places are looked at, and a run ends in time.
  */
 public final class ModelTest {
-    private static final int CALLS = 90;
+    private static final int MOST_CALLS = 512;
+    /** More than one turn of a run can need, and more than a new rule can need. */
+    private static final int CALLS_OF_ONE = 100;
+    private static final int CALLS_OF_RULE = 320;
 
     private long seed;
     private StepBench bench;
     private Model model;
+    private int calls;
     private final StringBuilder told = new StringBuilder();
 
     private ModelTest(long seed) {
@@ -18,7 +23,7 @@ public final class ModelTest {
     }
 
     public static void main(String[] args) {
-        int runs = args.length > 0 ? Integer.parseInt(args[0]) : 120;
+        int runs = args.length > 0 ? Integer.parseInt(args[0]) : 160;
         int first = args.length > 1 ? Integer.parseInt(args[1]) : 1;
         for (int i = first; i < first + runs; i++) {
             for (int kind = 0; kind < 6; kind++) {
@@ -43,13 +48,15 @@ public final class ModelTest {
         model = new Model();
         told.setLength(0);
         told.append("seed ").append(seed).append(':');
+        calls = 0;
         begin(kind);
-        for (int i = 0; i < CALLS; i++) {
-            if (pick(25) == 0) {
+        while (calls < MOST_CALLS - CALLS_OF_ONE) {
+            if (pick(25) == 0 && calls < MOST_CALLS - CALLS_OF_RULE) {
                 begin(kind);
             }
             oneCall();
         }
+        Due.is(told + "; calls", true, calls <= MOST_CALLS);
     }
 
     private void begin(int kind) {
@@ -64,6 +71,7 @@ public final class ModelTest {
     }
 
     private void same(String call, Due.Call of, Due.Call want) {
+        calls++;
         told.append(' ').append(call);
         Due.text(told + ";", Due.outcome(want), Due.outcome(of));
         if (told.length() > 6000) {
@@ -72,27 +80,46 @@ public final class ModelTest {
     }
 
     private void sameState() {
-        for (int what = -1; what <= 7; what++) {
-            int at = what;
-            Due.text(told + "; count(" + what + ")", Due.outcome(() -> model.count(at)),
-                Due.outcome(() -> bench.count(at)));
-        }
+        sameCount(3);
+        sameCount(between(-1, 7));
         int n = (int) model.count(3);
-        for (int i = -1; i <= n; i++) {
-            int at = i;
-            Due.text(told + "; row(" + i + ")", Due.outcome(() -> model.row(at)), Due.outcome(() -> bench.row(at)));
+        sameRow(n);
+        if (n <= 6) {
+            for (int i = 0; i < n; i++) {
+                sameRow(i);
+            }
+        } else {
+            sameRow(0);
+            sameRow(n - 1);
+            sameRow(pick(n));
+            sameRow(pick(n));
         }
     }
 
+    private void sameCount(int what) {
+        calls++;
+        Due.text(told + "; count(" + what + ")", Due.outcome(() -> model.count(what)),
+            Due.outcome(() -> bench.count(what)));
+    }
+
+    private void sameRow(int i) {
+        calls++;
+        Due.text(told + "; row(" + i + ")", Due.outcome(() -> model.row(i)), Due.outcome(() -> bench.row(i)));
+    }
+
     private void sameRule() {
-        for (int r = -1; r <= 65; r++) {
-            for (int what = -1; what <= 3; what++) {
-                int rest = r;
-                int part = what;
-                Due.text(told + "; told(" + r + ", " + what + ")", Due.outcome(() -> model.told(rest, part)),
-                    Due.outcome(() -> bench.told(rest, part)));
-            }
+        int n = (int) Math.max(model.count(1), model.count(2));
+        for (int i = 0; i < Math.min(2 * n, 8); i++) {
+            sameTold(pick(n), pick(3));
         }
+        sameTold(pick(2) == 0 ? n : -1, pick(2));
+        sameTold(0, pick(2) == 0 ? 3 : -1);
+    }
+
+    private void sameTold(int r, int what) {
+        calls++;
+        Due.text(told + "; told(" + r + ", " + what + ")", Due.outcome(() -> model.told(r, what)),
+            Due.outcome(() -> bench.told(r, what)));
     }
 
     // ---- rules

@@ -2,12 +2,13 @@ import com.sun.management.ThreadMXBean;
 import java.lang.management.ManagementFactory;
 
 /**
- * All calls of one run live in one room, so a call makes no rows of its own: 512 of the dearest calls
- * together make less than one new object does.
+ * All calls of one run live in one room, so a call makes no rows of its own: as many of the dearest calls
+ * as one bench may take, beside those that make its rule, together make less than one new object does.
  */
 public final class RoomTest {
     /** The room's 7.3 million fields and elements, in bytes, shared by 512 new objects. */
     private static final long MOST_OF_ONE = 7300000L * 8 / 512;
+    private static final int CALLS = 470;
 
     public static void main(String[] args) {
         ThreadMXBean threads = (ThreadMXBean) ManagementFactory.getThreadMXBean();
@@ -16,9 +17,9 @@ public final class RoomTest {
         calls(x, 40);
         StepBench y = benchWithAll();
         long before = threads.getThreadAllocatedBytes(me);
-        calls(y, 512);
+        calls(y, CALLS);
         long behind = threads.getThreadAllocatedBytes(me);
-        Due.is("512 calls make " + (behind - before) + " bytes, that is little", true, behind - before < 4096);
+        Due.is(CALLS + " calls make " + (behind - before) + " bytes, that is little", true, behind - before < 4096);
         new StepBench();
         before = threads.getThreadAllocatedBytes(me);
         StepBench z = new StepBench();

@@ -11,7 +11,6 @@ public final class WordsTest {
         ringBeyond();
         rings();
         ringsSpent();
-        manyRings();
         falls();
         fallsAreRefused();
         least();
@@ -283,37 +282,6 @@ public final class WordsTest {
         Due.is("21: only the last word too large", -2, last.rings(6));
         StepBench unmet = Bench.withRule(Bench.share(1000, 1, 1), Bench.share(1, 0, 1));
         Due.is("21: words that no number takes count", -2, unmet.rings(6));
-    }
-
-    /** 63 x / 64 on one half of the rests and 65 x / 64 on the other: each pair of them is a ring. */
-    private static void manyRings() {
-        long[][] shares = new long[64][];
-        for (int r = 0; r < 64; r++) {
-            long a = r < 32 ? 63 : 65;
-            // So falls what the later words begin with: the row has to let go of greater ones.
-            long times = r < 32 ? (r * 7) % 29 - 14 : (63 - r) * 14 / 31;
-            long b = Math.floorMod(-a * r, 64L) + 64 * times;
-            shares[r] = Bench.share(a, b, 64);
-        }
-        StepBench x = Bench.withRule(shares);
-        Model model = new Model();
-        model.draft(64);
-        for (int what = 0; what < 3; what++) {
-            model.sheet(2, 64);
-            for (int r = 0; r < 64; r++) {
-                model.entry(r, shares[r][what]);
-            }
-            model.lay(what);
-        }
-        model.seal();
-        long due = model.rings(2);
-        Due.is("21: more than 1000 rings", true, due > 1000);
-        Due.is("21: all are told of", due, x.rings(2));
-        Due.is("21: 1000 are in the row", 1000, x.count(3));
-        for (int i = 0; i < 1000; i++) {
-            Due.is("21: the row at " + i, model.row(i), x.row(i));
-        }
-        Due.throwsA("21: none behind", "NoSuchElementException", () -> x.row(1000));
     }
 
     private static void falls() {
