@@ -310,6 +310,7 @@ public final class EdgesOfBackTest {
         Due.is("27: M is 100005", -2, Bench.withRule(firstTwo(15, 59, 113)).both());
         Due.is("27: M is 100005 by sizes", -2, Bench.withRule(firstTwo(15, -59, 113)).both());
         Due.is("27: M is 15 * 59 * 112", 0, Bench.withRule(firstTwo(15, 59, 112)).both());
+        Due.is("27: M is 15 * 59 * 111, that is odd", 0, Bench.withRule(firstTwo(15, 59, 111)).both());
         long[][] later = firstTwo(25, 125, 32);
         later[24] = Bench.share(3, 0, 1);
         Due.is("27: M is 100000 and then 300000", -2, Bench.withRule(later).both());
@@ -480,6 +481,10 @@ public final class EdgesOfBackTest {
 
     /** "The product of all SHARES' sizes against 1: 1 greater, 0 like, -1 less": exact, however large. */
     private static void driftHoweverClose() {
+        Due.is("29: 2", 1, Bench.withRule(Bench.share(2, 0, 1), Bench.share(1, 0, 1)).drift());
+        Due.is("29: 1 / 2", -1, Bench.withRule(Bench.share(1, 0, 2), Bench.share(1, 0, 1)).drift());
+        Due.is("29: 1", 0, Bench.withRule(Bench.share(1, 0, 1), Bench.share(1, 1, 1)).drift());
+        Due.is("29: 1000 / 999", 1, Bench.withRule(Bench.share(1000, 0, 1), Bench.share(999, 0, 999)).drift());
         Due.is("29: 1000^64", 1, Bench.alike(64, 1000, 0, 1).drift());
         Due.is("29: (-1000)^64", 1, Bench.alike(64, -1000, 0, 1).drift());
         Due.is("29: 1000^64 / 1000^64", 0, Bench.alike(64, 1000, 0, 1000).drift());

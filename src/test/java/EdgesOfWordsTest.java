@@ -114,8 +114,11 @@ public final class EdgesOfWordsTest {
                 Due.is("19: rest " + m + " at " + at, -1, y.shape());
                 Due.is("20: rest " + m + " at " + at, -1, y.ring());
             }
-            Bench.tellWord(y, m - 1);
-            Due.is("19: rest " + (m - 1), 1, y.shape());
+            StepBench z = Bench.alike(m, 1, 0, 1);
+            for (int r = 0; r < 64; r++) {
+                Bench.tellWord(z, 0, r);
+                Due.is("19: rest " + r + " by " + m, r < m ? 1 : -1, z.shape());
+            }
         }
         StepBench all = Bench.alike(64, 1, 0, 1);
         Bench.tellWord(all, 63);
@@ -613,6 +616,10 @@ public final class EdgesOfWordsTest {
             Due.is("12: though the number is within", true, Math.abs(x.run(3124, 5)) < MOST);
         }
         Due.is("22: all of one step", 0, Bench.alike(64, 1000, 0, 1).falls(2));
+        Due.is("22: the distance is 1000^5 by 2^5 times 2^5", 0, Bench.alike(2, 1000, 0, 2).falls(5));
+        Due.is("22: the distance is 17^12", 79, Bench.withRule(Bench.share(1, 0, 2), Bench.share(17, 1, 2)).falls(12));
+        Due.is("22: the distance is 18^12", -4, Bench.withRule(Bench.share(1, 0, 2), Bench.share(18, 0, 2)).falls(12));
+        Due.is("22: the distance is 9^12 2^6", 0, Bench.alike(2, 9, 0, 1).falls(6));
     }
 
     /** "The RESTS by M are gone over from 0 on, each STEP by STEP; what comes up first is answered." */
