@@ -529,6 +529,11 @@ public final class EdgesOfRulesTest {
                 Due.throwsA("10: told(" + r + ", " + what + ")", GONE, () -> x.told(r, one));
             }
         }
+        StepBench behind = Bench.withList(1, 2, 3, 4, 5, 6, 7, 8);
+        behind.draft(2);
+        behind.seal();
+        Due.throwsA("10: what a list had before", GONE, () -> behind.told(2, 0));
+        Due.throwsA("10: nor its q", GONE, () -> behind.told(3, 1));
         StepBench two = Bench.threeHalves();
         Due.is("10: the last of two", 3, two.told(1, 0));
         Due.throwsA("10: behind the last of two", GONE, () -> two.told(2, 0));

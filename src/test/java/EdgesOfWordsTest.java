@@ -31,6 +31,7 @@ public final class EdgesOfWordsTest {
         fallsBelowD();
         fallsNumberTooLarge();
         fallsDistanceTooLarge();
+        fallsShapeTooLarge();
         fallsFirstOne();
         leastAsTold();
         leastWithinK();
@@ -620,6 +621,18 @@ public final class EdgesOfWordsTest {
         Due.is("22: the distance is 17^12", 79, Bench.withRule(Bench.share(1, 0, 2), Bench.share(17, 1, 2)).falls(12));
         Due.is("22: the distance is 18^12", -4, Bench.withRule(Bench.share(1, 0, 2), Bench.share(18, 0, 2)).falls(12));
         Due.is("22: the distance is 9^12 2^6", 0, Bench.alike(2, 9, 0, 1).falls(6));
+    }
+
+    /** "-4: behind a STEP the SHAPE is TOO LARGE": B alone, what the numbers come to is half of that at most. */
+    private static void fallsShapeTooLarge() {
+        Due.is("22: B is 971037062042775", 79,
+            Bench.withRule(Bench.share(1, 0, 2), Bench.share(17, 25, 2)).falls(12));
+        Due.is("22: B is 1048720027006197", -4,
+            Bench.withRule(Bench.share(1, 0, 2), Bench.share(17, 27, 2)).falls(12));
+        Due.is("22: B is -1048720027006197", -4,
+            Bench.withRule(Bench.share(1, 0, 2), Bench.share(17, -27, 2)).falls(12));
+        Due.is("22: behind 11 it is not yet", 67,
+            Bench.withRule(Bench.share(1, 0, 2), Bench.share(17, 27, 2)).falls(11));
     }
 
     /** "The RESTS by M are gone over from 0 on, each STEP by STEP; what comes up first is answered." */
