@@ -208,6 +208,20 @@ public final class EdgesOfStepsTest {
         Due.is("14: 27 in 59, k 100000", 59, Bench.threeHalves().height(27, 100000));
         Due.is("14: 138 in 2001", 2001, slowFall().height(138, 100000));
         Due.is("14: 138 in 2001, k 2000", -2, slowFall().height(138, 2000));
+        StepBench x = longWay();
+        Due.is("14: in just 100000", 100000, x.height(3090372055811L, 100000));
+        Due.is("14: not within 99999", -2, x.height(3090372055811L, 99999));
+        Due.is("14: another in just 100000", 100000, x.height(3279080267781L, 100000));
+    }
+
+    /** Of 62 rests the odd ones 63 / 62, the even ones 61 / 62, with the least b that makes them whole. */
+    private static StepBench longWay() {
+        long[][] shares = new long[62][];
+        for (int r = 0; r < 62; r++) {
+            int a = r % 2 == 0 ? 61 : 63;
+            shares[r] = Bench.share(a, Math.floorMod(-a * r, 62), 62);
+        }
+        return Bench.withRule(shares);
     }
 
     /** 138 comes below itself behind 2001 steps. */

@@ -319,6 +319,9 @@ public final class ModelTest {
     private void stepCall(int which) {
         long x = number();
         int k = steps();
+        if (which < 4 && isLeftOpen(x)) {
+            return;
+        }
         switch (which) {
             case 0:
             case 1:
@@ -347,6 +350,19 @@ public final class ModelTest {
                 same("word(" + x + ", " + n + ")", () -> bench.word(x, n), () -> model.word(x, n));
                 break;
         }
+    }
+
+    /** Of a list, what is no number and ends: the document names two exceptions, and not which comes first. */
+    private boolean isLeftOpen(long x) {
+        if (model.count(0) != 2 || x >= -1000000000000000L && x <= 1000000000000000L) {
+            return false;
+        }
+        for (int i = 0; i < model.count(2) && x > 0; i++) {
+            if (x % model.told(i, 1) == 0) {
+                return false;
+            }
+        }
+        return true;
     }
 
     private long reached(long x) {
